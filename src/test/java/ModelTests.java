@@ -34,10 +34,44 @@ public final class ModelTests {
                 }
             }
         }
+        failed += allOfThree();
         System.out.println("ModelTests: " + RUNS + " runs, " + failed + " with a wrong answer");
         if (failed > 0) {
             System.exit(1);
         }
+    }
+
+    /** Each table of order 3, with what is dear to find of it. */
+    private static int allOfThree() {
+        int failed = 0;
+        for (int signs = 0; signs < 512; signs++) {
+            ModelTests test = new ModelTests(signs);
+            test.layThree(signs);
+            test.layThree(signs * 173 + 5 & 511);
+            for (int what = 0; what < 3; what++) {
+                test.due("form(0, " + what + ")", test.tables.form(0, what), test.naive.form(0, what));
+                test.due("best(0, " + what + ")", test.tables.best(0, what), test.naive.best(0, what));
+                for (int t = 0; t < 2; t++) {
+                    test.due("image to " + t, test.tables.image(0, t, true, what), test.naive.image(0, t, true, what));
+                    test.due("image to " + t, test.tables.image(0, t, false, what), test.naive.image(0, t, false, what));
+                }
+            }
+            test.due("symmetries(0)", test.tables.symmetries(0), test.naive.symmetries(0));
+            test.due("determinant(0)", test.tables.determinant(0), test.naive.determinant(0));
+            if (!test.same) {
+                failed++;
+                System.out.println("all of three, " + signs + ": " + test.trace);
+            }
+        }
+        return failed;
+    }
+
+    private void layThree(int signs) {
+        for (int i = 0; i < 3; i++) {
+            int row = signs >> (3 * i) & 7;
+            due("tell(" + row + ")", tables.tell(row), naive.tell(row));
+        }
+        due("take()", tables.take(), naive.take());
     }
 
     private void due(String call, long got, long want) {

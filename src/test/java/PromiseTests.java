@@ -257,6 +257,12 @@ public final class PromiseTests {
         due("empty second", x.product(0, 4), NONE);
         due("no place", x.product(0, 6), NONE);
         due("no place", x.product(LEAST, 0), NONE);
+        SignTables y = new SignTables();
+        y.residues(3);
+        y.bordered(6, 0);
+        due("4 by 7 is 28", y.product(0, 1), 2);
+        due("28", y.order(2), 28);
+        due("4 by 8 is above", y.product(0, y.residues(7)), NONE);
     }
 
     private static void four() {
@@ -321,6 +327,9 @@ public final class PromiseTests {
         x.tell(1);
         due("told ahead", x.completed(2), 1);
         rowsAre(x, 1, 1, 0);
+        x.drop(1);
+        due("none told after that", x.completed(2), 1);
+        rowsAre(x, 1, 0, 1);
         completedOfWrongRows(x);
         SignTables y = full();
         y.tell(0);
@@ -400,6 +409,9 @@ public final class PromiseTests {
         due("column's trail", x.trail(0, false, 2, 1), 1);
         due("again", x.sign(0, false, 2), true);
         due("not signed", x.trail(0, false, 2, 1), 0);
+        x.sign(0, true, 0);
+        x.sign(0, true, 0);
+        due("a row not signed", x.trail(0, true, 0, 1), 0);
         due("no row", x.sign(0, true, 3), false);
         due("no column", x.sign(0, false, -1), false);
         due("empty", x.sign(1, true, 0), false);
@@ -415,6 +427,9 @@ public final class PromiseTests {
         rowsAre(x, 0, 6, 3, 1);
         due("columns", x.exchange(0, false, 0, 1), true);
         rowsAre(x, 0, 5, 3, 2);
+        due("columns", x.exchange(0, false, 1, 2), true);
+        rowsAre(x, 0, 3, 5, 4);
+        due("back", x.exchange(0, false, 2, 1), true);
         due("row's trail", x.trail(0, true, 0, 0), 2);
         due("column's trail", x.trail(0, false, 1, 0), 0);
         due("one row", x.exchange(0, true, 1, 1), false);
@@ -452,8 +467,20 @@ public final class PromiseTests {
         rowsAre(x, 1, 0 ^ 64 ^ 68, 153 ^ 64 ^ 68, 51 ^ 64 ^ 68, 85 ^ 64 ^ 68, 240 ^ 64, 105 ^ 64, 195 ^ 64, 165 ^ 64);
         due("the trail begins anew", x.trail(1, false, 6, 1), 0);
         due("perpendicular", x.perpendicular(1, 0), 1);
-        due("two alike", x.switched(1, 0, 1, 2, 0, 0), false);
-        due("two alike", x.switched(1, 0, 1, 1, 2, 0), false);
+        for (int pair = 0; pair < 16; pair++) {
+            int[] four = {4, 5, 6, 7};
+            four[pair / 4] = four[pair % 4];
+            boolean unlike = pair / 4 == pair % 4;
+            if (!unlike) {
+                due("two alike " + pair, x.switched(1, four[0], four[1], four[2], four[3], 0), false);
+            }
+        }
+        for (int at = 0; at < 4; at++) {
+            int[] four = {4, 5, 6, 7};
+            four[at] = at % 2 == 0 ? 8 : -1;
+            due("no row at " + at, x.switched(1, four[0], four[1], four[2], four[3], 0), false);
+        }
+        due("it stays as it is", x.bits(1, true, 4), 240 ^ 64);
         due("tally is 0", x.switched(1, 0, 1, 2, 4, 0), false);
         due("no column", x.switched(1, 0, 1, 2, 3, 8), false);
         due("no column", x.switched(1, 0, 1, 2, 3, -1), false);
@@ -467,6 +494,11 @@ public final class PromiseTests {
         int ones = lay(x, 0, 0, 0, 0, 0);
         due("rows of one kind are unlike by number", x.switched(ones, 4, 3, 2, 1, 0), true);
         rowsAre(x, ones, 0, 31, 31, 31, 31);
+        for (int pair = 0; pair < 16; pair++) {
+            int[] four = {0, 1, 2, 3};
+            four[pair / 4] = four[pair % 4];
+            due("by number " + pair, x.switched(ones, four[0], four[1], four[2], four[3], 0), pair / 4 == pair % 4);
+        }
     }
 
     private static void norm() {
@@ -616,6 +648,10 @@ public final class PromiseTests {
         x.drop(4);
         lay(x, 4, 4, 4);
         due("by 0 and 1, not by 2", x.best(4, 1), 3);
+        x.drop(4);
+        lay(x, 0x0f0, 0x1f1, 0x0f0, 0x10f, 0x0f0, 0x0f0, 0x0f0, 0x10f, 0x00f);
+        due("of 9", x.best(4, 0), 75);
+        due("columns of 9", x.best(4, 1), 0xf0);
         due("no what", x.best(0, 2), NONE);
         due("no what", x.best(0, -1), NONE);
         due("empty", x.best(5, 0), NONE);
@@ -655,6 +691,10 @@ public final class PromiseTests {
         due("with column 0: 1", x.part(0, false, 0, 1), 4);
         due("with column 4: 1", x.part(0, false, 4, 1), 3);
         due("with column 4: 5", x.part(0, false, 4, 5), 1);
+        x.residues(7);
+        due("with row 0: 0", x.part(1, true, 0, 0), 28);
+        due("with row 0: 8", x.part(1, true, 0, 8), 7);
+        x.drop(1);
         due("below 0", x.part(0, true, 0, -1), NONE);
         due("no row", x.part(0, true, 5, 5), NONE);
         due("no column", x.part(0, false, -1, 5), NONE);
@@ -702,6 +742,13 @@ public final class PromiseTests {
         due("a column signed", x.determinant(3), -before);
         lay(x, 0, 5, 5);
         due("0", x.determinant(4), 0);
+        x.drop(4);
+        // Rows 0 and 1 are alike in two columns, so a row from below has to be the second pivot.
+        lay(x, 0, 4, 1);
+        due("a row from below", x.determinant(4), 4);
+        x.drop(4);
+        lay(x, 0, 12, 10, 1);
+        due("of 4", x.determinant(4), 8);
         x.drop(4);
         x.bordered(12, 0);
         due("of 13", x.determinant(4), NO_AMOUNT);
@@ -938,6 +985,9 @@ public final class PromiseTests {
         due("turned", x.nearest(0, 10, 1), 1);
         due("unlike in none", x.nearest(0, 10, 2), 0);
         due("alone", x.nearest(0, 10, 3), 1);
+        due("row 0 itself", x.nearest(0, 0, 0), 0);
+        due("not turned", x.nearest(0, 0, 1), 0);
+        due("alone", x.nearest(0, 0, 3), 1);
         lay(x, 0, 0);
         due("the first of both", x.nearest(1, 3, 0), 0);
         due("turned", x.nearest(1, 3, 1), 1);
@@ -1053,6 +1103,10 @@ public final class PromiseTests {
         due("places", x.count(1), 6);
         due("told", x.count(2), 2);
         due("perpendicular", x.count(3), 4);
+        due("no such order", x.completed(1), NONE);
+        due("three rows", lay(x, 5), 0);
+        due("of 1", lay(x, 1), 3);
+        due("perpendicular, that of 1 too", x.count(3), 12);
         due("others", x.count(4), NONE);
         due("others", x.count(-1), NONE);
         due("others", x.count(LEAST), NONE);
