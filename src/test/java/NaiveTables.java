@@ -55,6 +55,16 @@ final class NaiveTables {
     private final List<Integer> told = new ArrayList<>();
     private final int[] numbers = new int[28];
 
+    /** One table, of these rows, at PLACE 0. */
+    static NaiveTables of(int... rows) {
+        NaiveTables made = new NaiveTables();
+        for (int row : rows) {
+            made.tell(row);
+        }
+        made.take();
+        return made;
+    }
+
     // ---- tables are made
 
     private int firstEmpty() {

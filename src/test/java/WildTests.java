@@ -5,10 +5,11 @@ import java.util.Arrays;
 import java.util.Comparator;
 import java.util.Random;
 
-/** Any arguments in any state: no call throws. Answers are what ModelTests looks at. */
+/** Any arguments in any state, and after the 512th call too: no call throws. Answers are what ModelTests looks at. */
 public final class WildTests {
     private static final int RUNS = 3000;
     private static final int CALLS = 512;
+    private static final int CALLS_OF_LONG_RUNS = 8000;
     private static final int[] EDGES = {Integer.MIN_VALUE, Integer.MIN_VALUE + 1, -1000, -29, -28, -2, -1, 13, 14, 15, 16, 23,
         27, 28, 29, 31, 32, 33, 63, 64, 112, 999, 1000, (1 << 28) - 1, 1 << 28, 1 << 30, Integer.MAX_VALUE};
 
@@ -21,7 +22,8 @@ public final class WildTests {
         int failed = 0;
         for (int run = 0; run < RUNS && failed == 0; run++) {
             SignTables x = new SignTables();
-            for (int k = 0; k < CALLS && failed == 0; k++) {
+            int most = run % 100 == 0 ? CALLS_OF_LONG_RUNS : CALLS;
+            for (int k = 0; k < most && failed == 0; k++) {
                 Method call = calls[random.nextInt(calls.length)];
                 Object[] drawn = draw(call, random);
                 try {
