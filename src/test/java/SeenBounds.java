@@ -218,13 +218,13 @@ final class SeenBounds {
         for (int n = 1; n <= 28; n++) {
             Run run = new Run();
             int t = run.layAlike(n, Run.full(n));
+            run.told(n <= 16 ? n * n : -2, "best", t, 0).told(n <= 16 ? 0 : -2, "best", t, 1);
             int u = run.plain(n);
             run.due(TRUE, "sign", u, false, 0).due(TRUE, "sign", u, true, n - 1);
             if (n <= 16) {
-                run.told(n * n, "best", t, 0).told(0, "best", t, 1);
                 run.told(n * n, "best", u, 0).told(n == 1 ? 0 : 1, "best", u, 1);
             } else {
-                run.told(-2, "best", t, 0).told(-2, "best", t, 1).told(-2, "best", u, 0).told(-2, "best", u, 1);
+                run.told(-2, "best", u, 0).told(-2, "best", u, 1);
             }
         }
     }

@@ -44,8 +44,9 @@ final class WitnessBounds {
         for (int n = 1; n <= 28; n++) {
             Run run = new Run();
             int t = run.plain(n);
+            run.told(n <= 6 ? 1 : -2, "like", t, t);
             int u = run.layAlike(n, 1);
-            run.told(n <= 6 ? 1 : -2, "like", t, u).told(n <= 6 ? 1 : -2, "like", u, t).told(n <= 6 ? 1 : -2, "like", t, t);
+            run.told(n <= 6 ? 1 : -2, "like", t, u).told(n <= 6 ? 1 : -2, "like", u, t);
         }
     }
 
