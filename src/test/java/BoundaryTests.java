@@ -6,7 +6,7 @@ public final class BoundaryTests {
     }
 
     public static void main(String[] args) throws IOException {
-        Sentences.readDocument(args.length > 1 ? args[1] : "../shared/DOC.md");
+        Sentences.readDocument("../shared/DOC.md");
         MakingBounds.all();
         ChangeBounds.all();
         SeenBounds.all();

@@ -34,10 +34,9 @@ public final class LanguageTests {
     private static int wrong;
 
     public static void main(String[] args) throws Exception {
-        String path = args.length > 0 ? args[0] : "src/main/java/SignTables.java";
         faceIsTheDocuments();
         membersKeepTheRules();
-        textKeepsTheRules(Files.readString(Path.of(path)));
+        textKeepsTheRules(Files.readString(Path.of("src/main/java/SignTables.java")));
         System.out.println("LanguageTests: " + wrong + " faults");
         if (wrong > 0) {
             System.exit(1);
